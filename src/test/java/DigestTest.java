@@ -76,6 +76,11 @@ public final class DigestTest {
 
     private static void digestOfSome() {
         Check.due("digest by the face", byFace(some()), some().digest());
+        Factloom x = new Factloom();
+        x.tell(0, 9);
+        x.tell(555, 1);
+        x.commit();
+        Check.due("from 000 to 555", byFace(x), x.digest());
     }
 
     private static void digestChangesNothing() {
@@ -94,6 +99,10 @@ public final class DigestTest {
         Check.due("no question", true, x.isSound());
         x.part();
         Check.due("parted", true, x.isSound());
+        x.pattern(678);
+        Check.due("three told and one made", 4, x.answers());
+        x.pattern(444);
+        Check.due("no answers, as one does not hold", true, x.isSound());
         Factloom full = new Factloom();
         for (int word = 0; word < 6; word++) {
             full.tell(word * 111, 1 + word);

@@ -81,6 +81,7 @@ public final class QuestionTest {
         Check.due("none then", -1, x.not(678));
         x.pattern(607);
         x.pattern(708);
+        Check.due("answers before", 2, x.answers());
         Check.due("clear of two", 2, x.clear());
         Check.due("store(9)", 0, x.store(9));
         dueAnswers("cleared", x, 9999);
@@ -155,6 +156,7 @@ public final class QuestionTest {
     private static void answersFollowTheStore() {
         Factloom x = small();
         x.pattern(106);
+        Check.due("answer(0) before answers()", 2999, x.answer(0));
         dueAnswers("at first", x, 2999);
         x.tell(105, 1);
         dueAnswers("not by a batch", x, 2999);
