@@ -8,6 +8,7 @@ public final class QuestionEdgesTest {
         threePatterns();
         oneNot();
         clearOfNoneAndAll();
+        clearedPatternsAreGone();
         withoutPatterns();
         noAnswer();
         oneAnswer();
@@ -110,7 +111,9 @@ public final class QuestionEdgesTest {
                 x.pattern(687);
             }
             x.not(999);
+            Check.due("answers before", new int[] {1, 5, 5, 5}[count], x.answers());
             Check.due("clear", count, x.clear());
+            Check.due("answers then", 1, x.answers());
             Check.due("no pattern", 0, x.store(9));
             Check.due("no not", 0, x.store(10));
             Check.due("clear again", 0, x.clear());
@@ -118,6 +121,22 @@ public final class QuestionEdgesTest {
             Check.due("bound", 1L, x.bound());
         }
         Check.due("that before the next not", -1, x.not(0));
+    }
+
+    /** What was in the QUESTION before counts for nothing: no pattern, no letter, no size, no power. */
+    private static void clearedPatternsAreGone() {
+        Factloom x = ask(five(), 607, 687, 678, 669);
+        Check.due("no answers", 0, x.answers());
+        Check.due("three sizes: 5, 5 and 1", 25L, x.bound());
+        x.clear();
+        x.pattern(106);
+        dueAnswers("one pattern", x, 2999, 3999);
+        Check.due("its bound", 4L, x.bound());
+        Check.dueThrow("size(1)", INDEX, () -> x.size(1));
+        x.pattern(107);
+        dueAnswers("two patterns", x, 2299, 2399, 3299, 3399);
+        Check.due("their bound", 16L, x.bound());
+        Check.dueThrow("size(2)", INDEX, () -> x.size(2));
     }
 
     /** "(Without PATTERNS there is one ANSWER, if the NOT lets it: 9999.)" */

@@ -11,6 +11,7 @@ public final class WouldBeEdgesTest {
         brokenNoneToSix();
         brokenByTheOrderOfTheBatch();
         brokenAndMended();
+        brokenAfterADrop();
         brokenThoughItCannotBe();
         brokenChangesNothing();
         lostNoneToAll();
@@ -88,6 +89,23 @@ public final class WouldBeEdgesTest {
         Check.due("it would be again", 1, x.broken());
         x.join(5, 3);
         Check.due("by heads it would not", 0, x.broken());
+    }
+
+    /** Nothing stays of a BATCH that was dropped, whether broken() or a refused commit() tried it. */
+    private static void brokenAfterADrop() {
+        Factloom x = new Factloom();
+        x.single(1, true);
+        x.tell(12, 1);
+        x.commit();
+        x.tell(13, 1);
+        Check.due("it would be", 1, x.broken());
+        Check.dueThrow("so it cannot be", STATE, x::commit);
+        x.drop();
+        Check.due("it would not be", 0, x.broken());
+        x.tell(12, 9);
+        Check.due("told again", 0, x.broken());
+        Check.due("so it can be", 2, x.commit());
+        Check.due("one row", 1, x.store(1));
     }
 
     /** "(even if it cannot be)": for the ROWS, for the MOMENT, for a SHAPE. */
@@ -301,6 +319,10 @@ public final class WouldBeEdgesTest {
         dueDigest("six rows", () -> Stores.rows(6));
         dueDigest("no answers", () -> asked(444));
         dueDigest("many answers", () -> asked(678));
+        dueDigest("chain by 0 from 1 to 2", () -> chained(0, 1, 2));
+        dueDigest("chain by another word", () -> chained(3, 1, 2));
+        dueDigest("chain from another word", () -> chained(0, 3, 2));
+        dueDigest("chain to another word", () -> chained(0, 1, 3));
         dueDigest("000 and 555", WouldBeEdgesTest::firstAndLast);
         List<Long> numbers = numbers(WouldBeEdgesTest::firstAndLast);
         Check.due("000 first", 0L, numbers.get(12));
@@ -311,6 +333,14 @@ public final class WouldBeEdgesTest {
         Factloom x = Stores.rich();
         x.clear();
         x.pattern(pattern);
+        return x;
+    }
+
+    private static Factloom chained(int word, int from, int to) {
+        Factloom x = new Factloom();
+        x.tell(from * 100 + word * 10 + 5, 1);
+        x.tell(500 + word * 10 + to, 1);
+        x.commit();
         return x;
     }
 
