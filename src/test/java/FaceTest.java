@@ -26,6 +26,9 @@ public final class FaceTest {
         for (Class<?> one : inside) {
             Check.due(one + " is static", true, Modifier.isStatic(one.getModifiers()));
             Check.due(one + " is not public", false, Modifier.isPublic(one.getModifiers()));
+            for (Method method : one.getDeclaredMethods()) {
+                Check.due(method + " has no public name", false, names.contains(method.getName()));
+            }
             shape(one);
         }
         shape(face);
@@ -79,6 +82,8 @@ public final class FaceTest {
         Check.due(one + " has at most twenty fields", true, fields <= 20);
         for (Method method : one.getDeclaredMethods()) {
             Check.due(method + " has at most seven parameters", true, method.getParameterCount() <= 7);
+            boolean isOfObject = Set.of("equals", "hashCode", "toString", "finalize").contains(method.getName());
+            Check.due(method + " has a name of its own", false, isOfObject);
         }
     }
 }
